@@ -1,0 +1,101 @@
+/** What the tests share: feeding texts, and telling every answer that is not the one that is due. */
+final class Bench {
+    final TaintHouse house = new TaintHouse();
+    private static int wrong = 0;
+    private static int asked = 0;
+
+    static void due(String what, long got, long want) {
+        asked++;
+        if (got != want) {
+            wrong++;
+            System.out.println(what + " answered " + got + ", due is " + want);
+        }
+    }
+
+    static void due(String what, boolean got, boolean want) {
+        due(what, got ? 1 : 0, want ? 1 : 0);
+    }
+
+    static void finish() {
+        System.out.println(wrong == 0 ? asked + " answers are as due" : wrong + " answers are not as due");
+        if (wrong != 0) {
+            System.exit(1);
+        }
+    }
+
+    /** Puts the text's bytes on the tape behind what it has; false if there was no room for them. */
+    static boolean put(TaintHouse house, String text) {
+        int before = house.count(4);
+        for (int at = 0; at < text.length(); at += 20) {
+            if (!house.feed(word(text, at), word(text, at + 4), word(text, at + 8), word(text, at + 12), word(text, at + 16))) {
+                house.end(before);
+                return false;
+            }
+        }
+        return house.end(before + text.length());
+    }
+
+    private static int word(String text, int at) {
+        int number = 0;
+        for (int i = at; i < at + 4; i++) {
+            number = number << 8 | (i < text.length() ? text.charAt(i) & 255 : 0);
+        }
+        return number;
+    }
+
+    int read(String text) {
+        put(house, text);
+        return house.text();
+    }
+
+    /** A text that is right. */
+    Bench right(String text, int methods) {
+        due("text of " + text, read(text), methods);
+        due("place of " + text, house.place(), -1);
+        return this;
+    }
+
+    /** One method f of one class A, with these KINDS, RESULT and ITEMS. */
+    Bench code(String kinds, String result, String items) {
+        return right("class A { method f(" + kinds + ") " + result + " { " + items + " } }", 1);
+    }
+
+    Bench wrong(String text, int place) {
+        due("text of " + text, read(text), -1 - place);
+        due("place of " + text, house.place(), -1);
+        return this;
+    }
+
+    Bench fault(String text, int kind, int place) {
+        due("text of " + text, read(text), -5000 - kind);
+        due("place of " + text, house.place(), place);
+        return this;
+    }
+
+    /** A text with ^ at the place where it is WRONG; the sign is taken out. */
+    Bench wrongAt(String marked) {
+        return wrong(marked.replace("^", ""), marked.indexOf('^'));
+    }
+
+    Bench faultAt(int kind, String marked) {
+        return fault(marked.replace("^", ""), kind, marked.indexOf('^'));
+    }
+
+    /** ITEMS of a method, with ^ at the place of FAULT 5. */
+    Bench codeFault(String kinds, String result, String marked) {
+        return faultAt(5, "class A { method f(" + kinds + ") " + result + " { " + marked);
+    }
+
+    /** Runs METHOD 0 and asks what result() has, from 0 on. */
+    Bench run(int... results) {
+        return runOf(0, results);
+    }
+
+    Bench runOf(int method, int... results) {
+        due("run(" + method + ")", house.run(method), results[0]);
+        for (int what = 0; what < results.length; what++) {
+            due("result(" + what + ")", house.result(what), results[what]);
+        }
+        return this;
+    }
+}
