@@ -30,6 +30,8 @@ public final class TaintHouse {
     private static final int CHANNELS = 16;
     private static final int ALL_MARKS = 65535;
     private static final int INC_MOST = 32767;
+    private static final int MOST_INT = 2147483647;
+    private static final int LEAST_INT = -2147483648;
     private static final int RUN_CODES = 20000;
     private static final int RUN_FRAMES = 24;
     private static final int RUN_CELLS = 3000;
@@ -434,7 +436,7 @@ public final class TaintHouse {
         }
 
         void resize(int size) {
-            used = Math.max(0, Math.min(size, rows));
+            used = size < 0 ? 0 : size > rows ? rows : size;
         }
 
         /** The new row's number; NONE, which reads and writes take for outside, if all are used. */
@@ -1052,7 +1054,7 @@ public final class TaintHouse {
             next++;
             switch (shapeOf(op)) {
                 case SHAPE_NUMBER:
-                    program.codes.set(row, Program.A, takeSigned(Integer.MAX_VALUE));
+                    program.codes.set(row, Program.A, takeSigned(MOST_INT));
                     break;
                 case SHAPE_LOCAL:
                     program.codes.set(row, Program.A, takeNumber(LOCALS - 1));
@@ -1113,9 +1115,9 @@ public final class TaintHouse {
                 return takeNumber(most);
             }
             next++;
-            if (most == Integer.MAX_VALUE && token() == Lexer.EDGE_NUMBER) {
+            if (most == MOST_INT && token() == Lexer.EDGE_NUMBER) {
                 next++;
-                return Integer.MIN_VALUE;
+                return LEAST_INT;
             }
             return -takeNumber(most);
         }
