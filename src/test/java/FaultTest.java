@@ -32,6 +32,14 @@ public final class FaultTest {
         x.faultAt(1, "class A { method a() none { ret; } virtual ^a() none { ret; } }");
         x.faultAt(1, "class A { virtual a() none { ret; } virtual ^a(int) none { ret; } }");
         x.right("class A { field a int; method A() none { ret; } } class B : A { static a int; } class C : B { virtual a() none { ret; } field A ref; }", 2);
+        String statics = TextTest.many("static t% int;", 16);
+        String methods = TextTest.many("method m%()none{ret;}", 23);
+        String full = "";
+        for (int c = 0; c < 12; c++) {
+            full = full + "class C" + c + "{" + (c == 11 ? statics + methods : "") + TextTest.many("field f% int;", 8) + (c == 11 ? "method ^f0()none{ret;}" : "") + "}";
+        }
+        x.faultAt(1, full);
+        x.right(full.replace("^f0", "g"), 24);
         x.faultAt(1, CODE + "x: ret; ^x: ret; } }");
         x.faultAt(1, CODE + "x: ^x: ret; } }");
         x.right(CODE + "x: ret; A: f: } method g() none { x: ret; } }", 2);

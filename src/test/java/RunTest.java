@@ -7,6 +7,8 @@ public final class RunTest {
         ends();
         argumentsOfRuns();
         stackCodes();
+        whatLiesBelow();
+        fullStacks();
         arithmetic();
         branches();
         marksOfOperands();
@@ -79,6 +81,41 @@ public final class RunTest {
         x.code("", "int", "push 3; mark 1; store 15; push 1; load 15; ret;").run(1, 3, 1);
         x.code("", "int", "push 3; mark 6; store 2; inc 2 32767; inc 2 - 5; load 2; ret;").run(1, 32765, 6);
         x.code("", "int", "push 2147483647; store 2; inc 2 1; load 2; ret;").run(1, LEAST, 0);
+    }
+
+    /** An INSTRUCTION takes and leaves just what is told: what lies below is there behind it. */
+    private static void whatLiesBelow() {
+        String[] all = {"push 2; store 0", "push 2; pop", "dup; pop", "push 2; swap; store 1; store 2; load 1", "push 2; sink 1", "push 2; puts A s", "gets A s; pop",
+            "push 2; clean 1; pop", "push 2; mark 1; pop", "push 2; neg; pop", "push 1; push 2; add; pop", "push 4; push 2; div; pop", "source 3; pop",
+            "goto x; x:", "push 1; ifeq x; x:", "push 0; ifeq x; x:", "push 1; push 2; cmpeq x; x:", "null; ifnull x; x:", "null; ifsome x; x:", "null; null; same x; x:",
+            "null; null; other x; x:", "new A; pop", "new A; push 2; put A a", "new A; get A a; pop", "new A; null; put A r", "new A; get A r; pop", "push 2; ints; pop",
+            "push 2; refs; pop", "push 2; ints; push 1; push 1; iput", "push 2; ints; push 1; iget; pop", "push 2; refs; push 1; null; rput", "push 2; refs; push 1; rget; pop",
+            "push 2; ints; length; pop", "call A n", "push 1; push 2; call A i; pop", "new A; push 1; virt A v; pop", "new A; is A; pop", "new A; as A; pop",
+            "push 2; store 5; inc 5 1", "null; pop"};
+        for (String codes : all) {
+            Bench x = new Bench().right("class A { field a int; field r ref; static s int; method f() int { push 9; mark 2; push 7; mark 1; " + (codes + ";").replace(":;", ":")
+                + " push 10; mul; add; ret; } method n() none { push 4; push 5; ret; } method i(int, int) int { load 0; load 1; push 3; ret; } virtual v(int) ref { load 1; load 0; null; ret; } }", 4);
+            Bench.due("run with " + codes, x.house.run(0), 1);
+            Bench.due("behind " + codes, x.house.result(1), 79);
+            Bench.due("MARKS behind " + codes, x.house.result(2), 3);
+        }
+    }
+
+    /** 16 VALUES and all locals in a METHOD that calls, also behind something caught. */
+    private static void fullStacks() {
+        String call = TextTest.many("push %; mark 1; ", 10) + "push 1; push 2; push 3; push 4; push 5; push 6; call A g; ";
+        StringBuilder store = new StringBuilder();
+        for (int k = 0; k < 16; k++) {
+            store.append("push ").append(k).append("; store ").append(k).append("; ");
+        }
+        String text = "class A { method g(int, int, int, int, int, int) int { load 0; sink 0; load 1; sink 1; load 2; sink 2; load 3; sink 3; load 4; sink 4; load 5; sink 5; push 8; store 15; push 77; ret; }"
+            + " method f() int { " + store + "a: null; throw; b: h: pop; " + call + "add; load 15; mul; ret; try a b h Any; } }";
+        Bench x = new Bench().right(text, 2);
+        x.runOf(1, 1, (77 + 9) * 15, 1);
+        for (int i = 0; i < 6; i++) {
+            Bench.due("KIND " + i, x.house.event(i, 1), i + 1);
+        }
+        Bench.due("the most", x.house.method(1, 5), 16);
     }
 
     private static void arithmetic() {
@@ -233,6 +270,11 @@ public final class RunTest {
         Bench.due("stat(-1, 0)", x.house.stat(-1, 0), -1);
         Bench.due("stat(0, 2)", x.house.stat(0, 2), -1);
         Bench.due("stat(0, -1)", x.house.stat(0, -1), -1);
+        x.right("class A { static s int; static r ref; method f() none { ret; } }", 1).run(0);
+        for (int k = 0; k < 2; k++) {
+            Bench.due("at first", x.house.stat(k, 0), -k);
+            Bench.due("without MARKS", x.house.stat(k, 1), 0);
+        }
         x.right("class A { static r ref; method f() none { ret; } method g() none { new A; mark1: puts A r; ret; } }", 2);
         x.runOf(1, 0);
         Bench.due("the static", x.house.stat(0, 0), 0);
@@ -397,6 +439,8 @@ public final class RunTest {
         thrown("push 1; refs; push 0; push 1; iput; ret;", 6);
         thrown("push 1; ints; push 0; null; rput; ret;", 6);
         thrown("new A; length; ret;", 6);
+        thrown("new Any; length; ret;", 6);
+        thrown("new Any; push 0; rget; ret;", 6);
         thrown("new A; as B; ret;", 6);
         thrown("push 1; ints; as A; ret;", 6);
         thrown("new Any; as Fault; ret;", 6);

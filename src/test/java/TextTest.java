@@ -169,7 +169,9 @@ public final class TextTest {
         x.wrongAt(CODE + "ret; add^: } }");
         x.wrongAt(CODE + "ret; ^5: } }");
         x.wrongAt(CODE + "ret; ^: } }");
-        x.wrongAt(CODE + "ret; ^field a int; } }");
+        for (String word : "class field static method virtual int ref none".split(" ")) {
+            x.wrongAt(CODE + "ret; ^" + word + " A B; } }");
+        }
         x.wrongAt(CODE + "ret; ^{ } } }");
         x.wrongAt(CODE + "ret; } ^");
         x.wrongAt(CODE + "ret; x: ^");
