@@ -26,6 +26,7 @@ public final class RunTest {
         faults();
         orderOfFaults();
         marksOfFaults();
+        marksOfRefs();
         catching();
         catchingInCallers();
         codesLimit();
@@ -404,6 +405,7 @@ public final class RunTest {
         Bench.due("run of " + items, x.house.run(1), 3);
         Bench.due("class of " + items, x.house.object(x.house.result(1), 0), type);
         Bench.due("FIELDS of it", x.house.object(x.house.result(1), 1), 0);
+        Bench.due("MARKS of no LENGTH", x.house.object(x.house.result(1), 2), 0);
         Bench.due("the last one made", x.house.result(1), x.house.result(6) - 1);
     }
 
@@ -455,7 +457,7 @@ public final class RunTest {
 
     private static void marked(String items, int marks) {
         for (int flows = 0; flows < 8; flows += 7) {
-            Bench x = new Bench().right("class A { field a int; virtual v(int, ref) none { ret; } method f(ref, int, int) none { " + items + " } }", 2);
+            Bench x = new Bench().right("class A { field a int; virtual v(int, ref) none { ret; } method f(ref, int, int) none { " + items + " } virtual w(int, int) none { ret; } }", 3);
             x.house.flows(flows);
             x.house.argument(0, 0, 1);
             x.house.argument(1, 0, 2);
@@ -479,10 +481,32 @@ public final class RunTest {
         marked("load 1; push 1; sub; ints; ret;", 2);
         marked("load 0; load 2; load 0; virt A v; ret;", 5);
         marked("load 0; load 1; null; virt A v; ret;", 3);
+        marked("load 0; load 1; load 2; virt A w; ret;", 7);
+        marked("null; push 1; load 2; virt A w; ret;", 4);
         marked("push 1; mark 8; pop; push 2; ints; load 1; push 5; add; iget; ret;", 2);
         marked("new A; as Fault; ret;", 0);
         marked("new A; load 1; load 0; virt A v; load 0; throw;", 1);
         marked("new A; load 2; iget; ret;", 4);
+    }
+
+    /** A ref that is no null gets MARKS by an index that flows. */
+    private static void marksOfRefs() {
+        String make = "class A { field a int; virtual v(int) none { ret; } } class B { method m() ref { push 1; refs; dup; push 0; new Any; rput; push 0; mark 4; rget; ret; } method f() none { push 1; mark 1; call B m; ";
+        String[] rest = {"throw", "as A; ret", "get A a; ret", "push 2; mark 2; put A a; ret", "push 2; mark 2; virt A v; ret", "length; ret", "push 0; mark 2; iget; ret", "push 0; push 2; mark 2; iput; ret"};
+        int[] due = {4, 4, 4, 6, 6, 4, 6, 6};
+        int[] types = {0, 6, 6, 6, 6, 6, 6, 6};
+        for (int i = 0; i < rest.length; i++) {
+            Bench x = new Bench().right(make + rest[i] + "; } }", 3);
+            x.house.flows(1);
+            Bench.due("run of " + rest[i], x.house.run(2), 3);
+            Bench.due("MARKS of " + rest[i], x.house.result(2), due[i]);
+            Bench.due("class of " + rest[i], x.house.object(x.house.result(1), 0), types[i]);
+        }
+        Bench x = new Bench().right(make + "dup; is Any; sink 1; is A; sink 2; ret; } }", 3);
+        x.house.flows(1);
+        x.runOf(2, 0);
+        Bench.due("is", x.house.event(0, 2), 4);
+        Bench.due("is", x.house.event(1, 2), 4);
     }
 
     private static void catching() {
