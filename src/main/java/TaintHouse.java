@@ -639,7 +639,7 @@ public final class TaintHouse {
             return at;
         }
 
-        /** A 0 ahead of a digit is a number of its own; the digit is what can't go on. */
+        /** A 0 is a number of its own: a digit right behind it begins the next token, as no blank need stand between. */
         private int scanNumber(int start, int length) {
             int at = start;
             long number = 0;
@@ -651,10 +651,6 @@ public final class TaintHouse {
                 addToken(BAD, start, 0);
             } else {
                 addToken(number == EDGE ? EDGE_NUMBER : NUMBER, start, (int) number);
-            }
-            if (at < length && isDigit(byteAt(at))) {
-                addToken(BAD, at, 0);
-                at++;
             }
             return at;
         }

@@ -9,7 +9,7 @@ final class Author {
     private static final String[] OF_TWO = {"cmpeq", "cmpne", "cmplt", "cmpge", "cmpgt", "cmple"};
     private static final String[] FIRST = {"Any", "Fault", "NullFault", "BoundsFault", "SizeFault", "DivideFault", "CastFault"};
     private static final String[] TOKENS = ("class field static method virtual int ref none try { } ( ) ; : , - 0 1 7 15 16 65535 65536 32767 32768 "
-        + "2147483647 2147483648 2147483649 00 01 A B C a b f g v Any Fault abcdefghijkl abcdefghijklm # ! push null load store inc dup pop "
+        + "2147483647 2147483648 2147483649 00 01 032767 032768 A B C a b f g v Any Fault abcdefghijkl abcdefghijklm # ! push null load store inc dup pop "
         + "swap add neg goto ifeq cmplt ifnull same new get put gets puts ints refs iget iput rget rput length call virt ret throw is as "
         + "source sink clean mark").split(" ");
 
@@ -217,7 +217,7 @@ final class Author {
             case 2:
                 for (int k = 0; k < 16; k++) {
                     if ("int".equals(locals[k])) {
-                        code("inc " + k + any(" ", " - ", "-") + upTo(5));
+                        code("inc " + k + (k == 0 && oneIn(4) ? "" : any(" ", " - ", "-")) + upTo(5));
                         break;
                     }
                 }

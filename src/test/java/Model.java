@@ -324,15 +324,16 @@ final class Model {
     private long takeNumber(long most) {
         skip();
         int start = at;
+        if (isNext("0")) {
+            take("0");
+            return 0;
+        }
         while (at < input.length() && digit(input.charAt(at))) {
             at++;
         }
         String digits = input.substring(start, at);
         if (digits.isEmpty()) {
             throw new Wrong(start);
-        }
-        if (digits.length() > 1 && digits.charAt(0) == '0') {
-            throw new Wrong(start + 1);
         }
         if (digits.length() > 10 || Long.parseLong(digits) > most) {
             throw new Wrong(start);

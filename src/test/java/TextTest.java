@@ -6,6 +6,7 @@ public final class TextTest {
         tokens();
         names();
         numbers();
+        numbersBehindZero();
         blanks();
         classes();
         members();
@@ -76,7 +77,6 @@ public final class TextTest {
         x.wrongAt(CODE + "push 0^0; ret; } }");
         x.wrongAt(CODE + "push 0^12; ret; } }");
         x.wrongAt(CODE + "push -0^1; ret; } }");
-        x.wrongAt(CODE + "inc 0^1; ret; } }");
         x.wrongAt(CODE + "push 5^x; ret; } }");
         x.wrongAt(CODE + "push 5 ^5; ret; } }");
         x.wrongAt("class ^01 { }");
@@ -98,6 +98,39 @@ public final class TextTest {
         x.wrongAt(CODE + "push 1; mark ^65536; ret; } }");
         x.wrongAt(CODE + "push 1; mark ^-1; ret; } }");
         x.right(CODE + "push 1; clean 65535; mark 65535; mark 0; ret; } }", 1);
+    }
+
+    /** A 0 is a NUMBER by itself, and no blank need stand between two TOKENS: inc 05 is inc with 0 and 5. */
+    private static void numbersBehindZero() {
+        Bench x = new Bench();
+        for (String told : new String[] {"05", "00", "032767", "010", "0-5", "0-0", "0#\n5", "15 0"}) {
+            x.right("class A { method f() none { push 1; store 0; push 1; store 15; inc " + told + "; ret; } }", 1);
+        }
+        x.right("class A{method f(int)int{inc 05;load 0;ret;}}", 1);
+        x.house.argument(0, 7, 4);
+        x.run(1, 12, 4);
+        x.wrongAt("class A{method f(int)none{inc 05^\0\0\0\0\0\0\0\0");
+        x.wrongAt("class A{method f(int)none{inc 05^");
+        x.wrongAt(CODE + "inc 05^-1; ret; } }");
+        x.wrongAt(CODE + "inc 05 ^5; ret; } }");
+        x.wrongAt(CODE + "inc 00^0; ret; } }");
+        x.wrongAt(CODE + "inc 00^5; ret; } }");
+        x.wrongAt(CODE + "inc 0^32768; ret; } }");
+        x.wrongAt(CODE + "inc 0^2147483648; ret; } }");
+        x.wrongAt(CODE + "inc 0^99999999999; ret; } }");
+        x.wrongAt(CODE + "inc 0^; ret; } }");
+        x.wrongAt(CODE + "inc 0^x; ret; } }");
+        x.wrongAt(CODE + "inc 15^; ret; } }");
+        x.wrongAt(CODE + "inc ^150; ret; } }");
+        x.wrongAt(CODE + "inc 15 0^5; ret; } }");
+        x.wrongAt(CODE + "inc 0-0^5; ret; } }");
+        x.wrongAt(CODE + "load 0^1; ret; } }");
+        x.wrongAt(CODE + "store 0^0; ret; } }");
+        x.wrongAt(CODE + "source 0^1; ret; } }");
+        x.wrongAt(CODE + "sink 0^1; ret; } }");
+        x.wrongAt(CODE + "push 1; mark 0^1; ret; } }");
+        x.wrongAt(CODE + "push 1; clean 0^0; ret; } }");
+        x.wrongAt(CODE + "push 0^2147483648; ret; } }");
     }
 
     private static void blanks() {
