@@ -1,15 +1,45 @@
+import java.io.IOException;
+import java.io.UncheckedIOException;
+import java.nio.charset.StandardCharsets;
+import java.nio.file.Files;
+import java.nio.file.Path;
+
 /** What the tests share: feeding texts, and telling every answer that is not the one that is due. */
 final class Bench {
     final TaintHouse house = new TaintHouse();
     private static int wrong = 0;
     private static int asked = 0;
+    private static int sentences = 0;
+    private static String quoted = "";
+    private static String document = null;
 
     static void due(String what, long got, long want) {
         asked++;
         if (got != want) {
             wrong++;
-            System.out.println(what + " answered " + got + ", due is " + want);
+            System.out.println(quoted + what + " answered " + got + ", due is " + want);
         }
+    }
+
+    /**
+     * Names the sentence of the document that the answers from here on are held against. It must stand there word by
+     * word, so that a test whose sentence is changed in the document is found.
+     */
+    static void sentence(int promise, String words) {
+        quoted = "promise " + promise + ", \"" + words + "\": ";
+        sentences++;
+        due("the document has these words", document().contains(words), true);
+    }
+
+    private static String document() {
+        if (document == null) {
+            try {
+                document = Files.readString(Path.of("../shared/DOC.md"), StandardCharsets.UTF_8).replaceAll("\\s+", " ");
+            } catch (IOException e) {
+                throw new UncheckedIOException(e);
+            }
+        }
+        return document;
     }
 
     static void due(String what, boolean got, boolean want) {
@@ -17,7 +47,8 @@ final class Bench {
     }
 
     static void finish() {
-        System.out.println(wrong == 0 ? asked + " answers are as due" : wrong + " answers are not as due");
+        String of = sentences == 0 ? "" : " of " + sentences + " sentences";
+        System.out.println(wrong == 0 ? asked + " answers" + of + " are as due" : wrong + " answers are not as due");
         if (wrong != 0) {
             System.exit(1);
         }
