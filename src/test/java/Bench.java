@@ -17,7 +17,8 @@ final class Bench {
         asked++;
         if (got != want) {
             wrong++;
-            System.out.println(quoted + what + " answered " + got + ", due is " + want);
+            String shown = what.length() > 400 ? what.substring(0, 300) + " .. " + what.substring(what.length() - 80) : what;
+            System.out.println(quoted + shown + " answered " + got + ", due is " + want);
         }
     }
 

@@ -25,6 +25,7 @@ public final class FaceEdgeTest {
         arguments();
         argumentMarks();
         types();
+        firstClasses();
         mostOfTypes();
         methods();
         mostOfMethods();
@@ -343,6 +344,30 @@ public final class FaceEdgeTest {
             for (int c : FAR) {
                 Bench.due("type(" + c + ", " + what + ")", x.house.type(c, what), -1);
             }
+        }
+    }
+
+    private static void firstClasses() {
+        Bench.sentence(16, "CLASSES ahead of all others, without MEMBERS: Any, and behind it, with Any as PARENT, Fault; with Fault: NullFault, BoundsFault, SizeFault, DivideFault, CastFault. A CLASS without a PARENT has Any.");
+        Bench x = new Bench();
+        for (int times = 0; times < 2; times++) {
+            for (int c = 0; c < 7; c++) {
+                Bench.due("PARENT of " + c, x.house.type(c, 0), c == 0 ? -1 : c == 1 ? 0 : 1);
+                Bench.due("FIELDS of " + c, x.house.type(c, 1), 0);
+                Bench.due("METHODS of " + c, x.house.type(c, 2), 0);
+            }
+            x.right("class A { field a int; method f() none { ret; } } class B : Fault { field a int; } class C : A { }", 1);
+            int[] parents = {0, 1, 7};
+            for (int c = 7; c < 10; c++) {
+                Bench.due("PARENT of " + c, x.house.type(c, 0), parents[c - 7]);
+            }
+        }
+        String[] names = {"Any", "Fault", "NullFault", "BoundsFault", "SizeFault", "DivideFault", "CastFault"};
+        for (int c = 0; c < 7; c++) {
+            x.code("", "ref", "new " + names[c] + "; ret;").run(2, 0, 0, 2, 0, 0, 1, 1);
+            Bench.due("class of a " + names[c], x.house.object(0, 0), c);
+            x.right("class A : " + names[c] + " { }", 0);
+            Bench.due("PARENT", x.house.type(7, 0), c);
         }
     }
 

@@ -20,6 +20,7 @@ public final class RunEdgeTest {
         doneAheadOfALimit();
         numbering();
         results();
+        mostOfResults();
         resultsOfEnds();
         events();
         objects();
@@ -366,6 +367,18 @@ public final class RunEdgeTest {
         for (int what = 0; what < 8; what++) {
             Bench.due("result(" + what + ") of a RUN that is forgotten", x.house.result(what), -1);
         }
+    }
+
+    private static void mostOfResults() {
+        Bench.sentence(11, "3 INSTRUCTIONS done, 4 EVENTS, 5 ALARMS, 6 OBJECTS and ARRAYS, 7 CELLS.");
+        String items = "push 500; store 0; x: source 2; sink 1; inc 0 - 1; load 0; ifgt x; y: new A; pop; goto y;";
+        Bench x = new Bench().code("", "none", items);
+        x.run(6, 0, 0, 2 + 500 * 5 + 9000, 500, 0, 3000, 3000);
+        x.house.policy(1, 4);
+        x.run(6, 0, 0, 2 + 500 * 5 + 9000, 500, 500, 3000, 3000);
+        x.code("", "none", "ret;").run(0, 0, 0, 1, 0, 0, 0, 0);
+        x.code("", "none", "push 1; mark 1; sink 1; push 1; mark 2; sink 1; push 1; mark 4; sink 1; push 0; ints; push 2; ints; x: goto x;");
+        x.run(4, 0, 0, 20000, 3, 1, 2, 4);
     }
 
     private static void resultsOfEnds() {

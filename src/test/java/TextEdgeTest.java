@@ -32,6 +32,7 @@ public final class TextEdgeTest {
         statics();
         methods();
         kinds();
+        memberKinds();
         results();
         tries();
         codes();
@@ -41,6 +42,8 @@ public final class TextEdgeTest {
         minus();
         labels();
         empty();
+        mostNames();
+        mostCodes();
         Bench.finish();
     }
 
@@ -352,6 +355,7 @@ public final class TextEdgeTest {
         x.wrongAt(head + "inc 0 ^2147483647" + END);
         x.wrongAt(head + "inc 0 -^32768" + END);
         x.wrongAt(head + "inc 0 - ^32769" + END);
+        Bench.sentence(4, "clean N; mark N (N at most 65535).");
         for (String word : "clean mark".split(" ")) {
             x.right(head + "push 1; " + word + " 0" + END, 1);
             x.right(head + "push 1; " + word + " 65535" + END, 1);
@@ -461,6 +465,17 @@ public final class TextEdgeTest {
         x.wrongAt("class A { method f(int, ref, int, ref, int, ref^, int) none { ret; } }");
         x.wrongAt("class A { virtual f(int,ref,int,ref,int,ref ^,");
         x.wrongAt("class A { virtual f(int,int,int,int,int,int^;int) none { ret; } }");
+    }
+
+    private static void memberKinds() {
+        Bench.sentence(4, "KIND: int or ref.");
+        Bench x = new Bench();
+        x.right("class A { field a int; field b ref; static c int; static d ref; method f(int, ref) none { ret; } }", 1);
+        for (String place : "field a @;,static a @;,method f(@) none { ret; },virtual v(int, @) none { ret; }".split(",(?! )")) {
+            for (String word : "none 0 a Int REF class ; { -".split(" ")) {
+                x.wrongAt("class A { " + place.replace("@", "^" + word) + " }");
+            }
+        }
     }
 
     private static void results() {
@@ -601,8 +616,11 @@ public final class TextEdgeTest {
     }
 
     private static void labels() {
-        Bench.sentence(4, "A NAME among ITEMS must have : behind it.");
         Bench x = new Bench();
+        Bench.sentence(4, "ITEMS: NAME : is a LABEL;");
+        x.right(CODE + "goto z; y: goto x; z: goto y; x: w: ret; v: } }", 1).run(0, 0, 0, 4);
+        Bench.due("INSTRUCTIONS", x.house.method(0, 4), 4);
+        Bench.sentence(4, "A NAME among ITEMS must have : behind it.");
         x.right(CODE + "x: y : z\n:ret; } }", 1);
         x.wrongAt(CODE + "x^; ret; } }");
         x.wrongAt(CODE + "x ^ret; } }");
@@ -631,5 +649,53 @@ public final class TextEdgeTest {
         Bench.put(x.house, "class A { }");
         x.house.end(0);
         Bench.due("text() behind end(0)", x.house.text(), -1);
+    }
+
+    /** As many different NAMES as a tape can hold, all LABELS of one METHOD. */
+    private static void mostNames() {
+        Bench.sentence(4, "THE TAPE has at most 4000 bytes.");
+        String head = "class A{method f()none{goto Z0;";
+        String letters = "abcdefghijklmnopqrstuvwxyzABCDEFGHIJKLMNOPQRSTUVWXYZ";
+        StringBuilder text = new StringBuilder(head);
+        for (int i = 0; i < 52; i++) {
+            text.append(letters.charAt(i)).append(':');
+        }
+        int names = 52;
+        for (int i = 0; text.length() < 3900; i++) {
+            String name = "" + letters.charAt(i / 62 % 52) + (letters + "0123456789").charAt(i % 62);
+            if (!"as is or Z0".contains(name)) {
+                text.append(name).append(':');
+                names++;
+            }
+        }
+        Bench.due("many different NAMES", names > 1300, true);
+        Bench x = new Bench();
+        String most = text.toString() + "ret;Z0:null;throw;";
+        while (most.length() < 3994) {
+            most = most + ' ';
+        }
+        x.right(most + "Za:}}", 1);
+        x.run(3, 0, 0, 3);
+        x.faultAt(1, most + "^Z0:}}");
+        x.faultAt(1, most + "^ur:}}");
+        x.faultAt(1, most + "^a:}}");
+        x.faultAt(2, most.replace("goto Z0", "goto ^Z1") + "Za:}}");
+        // As many LABELS as can stand, all of one NAME; as many different NAMES in texts that are WRONG.
+        String same = "class A{method f()none{a:^a:" + TextTest.many("a:", 1983);
+        x.faultAt(1, same + "ret;}}");
+        x.wrongAt(text + "ret;}}^?");
+    }
+
+    /** As many INSTRUCTIONS as a tape can hold: 12 METHODS of 100, and one more. */
+    private static void mostCodes() {
+        Bench.sentence(4, "an INSTRUCTION and ; (at most 100 a METHOD).");
+        String hundred = "method m%()none{ret;" + TextTest.many("or;", 99) + "}";
+        Bench x = new Bench();
+        x.right("class A{" + TextTest.many(hundred, 12) + "method z()int{goto x;" + TextTest.many("or;", 40) + "x:push 7;ret;}}", 13);
+        x.runOf(12, 1, 7, 0, 3);
+        Bench.due("INSTRUCTIONS", x.house.method(11, 4), 100);
+        Bench.due("INSTRUCTIONS", x.house.method(12, 4), 43);
+        x.faultAt(5, "class A{" + TextTest.many(hundred, 12) + "method z()int{goto x;" + TextTest.many("or;", 40) + "x:^or;ret;}}");
+        x.faultAt(2, "class A{" + TextTest.many(hundred, 12) + "method z()int{ret;" + TextTest.many("or;", 40) + "goto ^x;}}");
     }
 }

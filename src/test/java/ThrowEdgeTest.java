@@ -99,6 +99,7 @@ public final class ThrowEdgeTest {
                 thrown(ref + "; push 0; null; rput;", CAST);
             }
         }
+        Bench.sentence(10, "a ref that isn't as told above: a CastFault;");
         thrown("new A; as B; pop;", CAST);
         done("new B; as A; as B; as Any; as B; pop;");
     }

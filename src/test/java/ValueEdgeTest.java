@@ -262,6 +262,8 @@ public final class ValueEdgeTest {
     }
 
     private static void refs() {
+        Bench.sentence(10, "or a ref: null, an OBJECT, an ARRAY of ints or of refs.");
+        allRefs();
         Bench.sentence(10, "ifnull L, ifsome L; same L, other L (two refs);");
         String[] firsts = {"null", "new A", "push 0; ints", "push 0; refs"};
         for (int i = 0; i < firsts.length; i++) {
@@ -281,6 +283,21 @@ public final class ValueEdgeTest {
         x.house.argument(0, 1, 5);
         x.house.argument(1, 2, 10);
         x.run(1, 1, 0);
+    }
+
+    private static void allRefs() {
+        String[] firsts = {"null", "new A", "push 1; ints", "push 1; refs"};
+        int[] types = {-1, 7, -2, -3};
+        for (int i = 0; i < 4; i++) {
+            Bench x = new Bench().right("class A { static t ref; field b ref; method f() ref { " + firsts[i] + "; dup; puts A t; dup; store 0; new A; store 1; load 1; load 0; put A b; push 1; refs; store 2; "
+                + "load 2; push 0; load 0; rput; ret; } }", 1);
+            int made = i == 0 ? 0 : 1;
+            x.run(2, made - 1);
+            Bench.due("static", x.house.stat(0, 0), made - 1);
+            Bench.due("FIELD", x.house.slot(made, 0, 0), made - 1);
+            Bench.due("element", x.house.slot(made + 1, 0, 0), made - 1);
+            Bench.due("class", made == 0 ? -1 : x.house.object(0, 0), types[i]);
+        }
     }
 
     private static void lengths() {
