@@ -27,6 +27,7 @@ public final class CodeEdgeTest {
         anotherStack();
         byAnyWay();
         somethingMore();
+        manyTimesMore();
         stores();
         lowestFirst();
         orderBehind();
@@ -371,6 +372,21 @@ public final class CodeEdgeTest {
         fine("", "none", all + "goto x;");
         fine("", "none", all + "push 1; store 0; goto x;");
         faulty("", "none", all + "^load 15; goto x;");
+    }
+
+    /** Each INSTRUCTION of the try brings one thing more of one local to x, and all behind x is looked at anew. */
+    private static void manyTimesMore() {
+        Bench.sentence(4, "Then, as long as there is one that was come to with something new, the lowest of them:");
+        StringBuilder more = new StringBuilder();
+        for (int k = 1; k < 16; k++) {
+            more.append("null;store ").append(k).append(";push 1;store ").append(k).append(";");
+        }
+        String head = "class A{method f(int)none{null;x:pop;";
+        String rest = TextTest.many("push 1;pop;", 15) + "a:" + more;
+        Bench x = new Bench();
+        x.faultAt(5, head + "^load 0;pop;" + rest + "null;store 0;push 1;b:pop;ret;try a b x Any;}}");
+        x.right(head + "load 0;pop;" + rest + "null;store 0;b:push 1;pop;ret;try a b x Any;}}", 1);
+        Bench.due("INSTRUCTIONS", x.house.method(0, 4), 99);
     }
 
     private static void stores() {

@@ -6,6 +6,7 @@ public final class FaultEdgeTest {
     public static void main(String[] args) {
         toldAgain();
         differentNames();
+        mostMembers();
         firstClassesAgain();
         parents();
         classesAnywhere();
@@ -57,6 +58,20 @@ public final class FaultEdgeTest {
             }
         }
         x.faultAt(1, "class A { " + TextTest.many("field f%e int; ", 8) + TextTest.many("static s% int; ", 16) + TextTest.many("method m%" + VOID, 23) + "virtual ^f7e" + VOID + "}");
+    }
+
+    /** As many MEMBERS as a TEXT can have: the last one is looked at, too. */
+    private static void mostMembers() {
+        Bench.sentence(4, "in a class a MEMBER;");
+        StringBuilder text = new StringBuilder();
+        for (int c = 0; c < 12; c++) {
+            text.append("class C").append(c).append("{").append(TextTest.many("field f% int;", 8)).append(c < 11 ? "}" : "");
+        }
+        text.append(TextTest.many("static s% int;", 16)).append(TextTest.many("method m%()none{ret;}", 23));
+        Bench x = new Bench().right(text + "virtual n()none{ret;}}", 24);
+        x.faultAt(1, text + "virtual ^m0()none{ret;}}");
+        x.faultAt(1, text + "virtual ^sf()none{ret;}}");
+        x.faultAt(1, text + "virtual ^f7()none{ret;}}");
     }
 
     private static void firstClassesAgain() {

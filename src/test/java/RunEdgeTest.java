@@ -11,6 +11,7 @@ public final class RunEdgeTest {
         ends();
         codesLimit();
         framesLimit();
+        fullFrames();
         cellsLimit();
         eventsLimit();
         whatIsNotDone();
@@ -181,6 +182,35 @@ public final class RunEdgeTest {
         x.runOf(2, 5, 0);
         x.right("class A { method g() none { ret; } method f() none { push 30; store 0; x: call A g; inc 0 - 1; load 0; ifgt x; ret; } }", 2);
         x.runOf(1, 0, 0, 0, 2 + 30 * 5 + 1);
+    }
+
+    /** In each of 24 METHODS within one another, and behind something caught, 16 locals and a STACK of 16 hold. */
+    private static void fullFrames() {
+        Bench.sentence(10, "5 a 25th METHOD within one another would begin,");
+        StringBuilder stores = new StringBuilder();
+        StringBuilder pushes = new StringBuilder();
+        for (int k = 0; k < 16; k++) {
+            stores.append(k == 0 ? "" : "load 0;store " + k + ";inc " + k + " " + k + ";");
+            pushes.append("load ").append(k).append(";");
+        }
+        // Local 0 tells how deep; the STACK of 16 is full when n is called, and n writes its own local 0 and STACK.
+        String text = "class A{method n()none{" + stores.toString().replace("load 0;", "push 90;") + "push 91;store 0;" + TextTest.many("push 8;", 16) + "ret;}"
+            + "method d(int)int{" + stores + "a:null;throw;h:pop;b:load 0;ifle x;load 0;push 1;sub;call A d;sink 0;x:" + pushes + "call A n;" + TextTest.many("add;", 15) + "ret;try a h h Any;}}";
+        for (String each : new String[] {text, text.replace("a:null;throw;h:pop;b:", "").replace("try a h h Any;", "")}) {
+            Bench x = new Bench().right(each, 2);
+            for (int deep = 0; deep < 23; deep++) {
+                x.house.argument(0, deep, 0);
+                x.runOf(1, 1, 16 * deep + 120, 0);
+                for (int i = 0; i < deep; i++) {
+                    Bench.due("METHOD " + i, x.house.event(i, 1), 16 * i + 120);
+                }
+            }
+            // The 24th has them, too, though it can't call.
+            x.right(each.replace("call A n;", ""), 2);
+            x.house.argument(0, 23, 0);
+            x.runOf(1, 1, 16 * 23 + 120, 0);
+            Bench.due("the 24th", x.house.event(0, 1), 120);
+        }
     }
 
     private static void cellsLimit() {

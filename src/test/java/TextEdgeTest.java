@@ -196,6 +196,18 @@ public final class TextEdgeTest {
         x.right("class abcdefghijkl { method ABCDEFGHIJKL() none { z00000000000: goto z00000000000; } }", 1);
         x.right("class abcdefghijkl { } class abcdefghijkL { } class abcdefghijk { }", 0);
         x.faultAt(1, "class abcdefghijkl { } class ^abcdefghijkl { }");
+        // NAMES that differ in one sign, at each place of it.
+        String letters = "abcdefghijklmnopqrstuvwxyzABCDEFGHIJKLMNOPQRSTUVWXYZ";
+        String rest = "m1Mz0Za9A5";
+        for (int ahead = 0; ahead <= rest.length(); ahead++) {
+            for (int length = ahead; length <= rest.length(); length++) {
+                StringBuilder all = new StringBuilder();
+                for (int i = 0; i < 52; i++) {
+                    all.append(rest, 0, ahead).append(letters.charAt(i)).append(rest, ahead, length).append("Q:");
+                }
+                x.right(CODE + all + "ret; } }", 1);
+            }
+        }
     }
 
     private static void longNames() {
@@ -460,6 +472,7 @@ public final class TextEdgeTest {
             x.wrongAt(head + "int,^,int) none { ret; } }");
             x.wrongAt(head + "^1) none { ret; } }");
             x.wrongAt(head + "^none) none { ret; } }");
+            x.wrongAt(head + "int, ^none) none { ret; } }");
         }
         Bench.sentence(4, "A seventh KIND is WRONG at the comma ahead of it;");
         x.wrongAt("class A { method f(int, ref, int, ref, int, ref^, int) none { ret; } }");
@@ -499,6 +512,13 @@ public final class TextEdgeTest {
         x.right("class A { " + TextTest.many(method.replace("@", ""), 3) + "} class B { " + method.replace("%", "").replace("@", "") + "}", 4);
         x.wrongAt("class A { " + method.replace("%", "").replace("@", "^try a b c Any; ") + "}");
         x.wrongAt("class A { " + method.replace("%", "1").replace("@", "") + method.replace("%", "2").replace("@", "^try") + "}");
+        // The most of all: 8 in each of 24 METHODS; the last one of the last METHOD catches.
+        String each = "{a:null;throw;b:pop;ret;c:pop;ret;" + TextTest.many("try a b b A;", 7) + "try a b c Any;}";
+        x.right("class A{" + TextTest.many("method f%()none" + each, 24) + "}", 24);
+        x.runOf(23, 0, 0, 0, 4);
+        String last = "{a:null;throw;b:pop;ret;c:pop;ret;" + TextTest.many("try a b b A;", 7);
+        x.faultAt(2, "class A{" + TextTest.many("method f%()none" + each, 23) + "method z()none" + last + "try a b c ^None;}}");
+        x.faultAt(4, "class A{" + TextTest.many("method f%()none" + each, 23) + "method z()none" + last + "try ^b b c Any;}}");
         x.wrongAt(CODE + "try a b c^; } }");
         x.wrongAt(CODE + "try a b c d ^e; } }");
         x.wrongAt(CODE + "try ^; } }");
