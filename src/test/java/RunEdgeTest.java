@@ -433,8 +433,8 @@ public final class RunEdgeTest {
         x.code("int", "none", "load 0; ret;");
         x.house.argument(0, 2, 65535);
         x.run(0, 0, 0);
-        for (String items : "x: goto x;,x: load 0; sink 0; goto x;,load 0; push 32767; mul; ints; ret;,call A f; ret;".split(",")) {
-            x.code("int", "none", items.replace("call A f", "load 0; call A f"));
+        for (String items : "x: goto x;,x: load 0; sink 0; goto x;,load 0; push 32767; mul; ints; ret;,load 0; call A f; ret;".split(",")) {
+            x.code("int", "none", items);
             x.house.argument(0, 2, 65535);
             Bench.due("run by " + items, x.house.run(0) >= 4, true);
             Bench.due("result(1)", x.house.result(1), 0);
