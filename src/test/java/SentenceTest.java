@@ -19,7 +19,11 @@ public final class SentenceTest {
         "Of an OBJECT or ARRAY of the latest RUN:", "Of a FIELD or element", "Of a CLASS:", "Of a METHOD:", "");
 
     public static void main(String[] args) throws IOException {
-        String document = flat(Files.readString(Path.of("../shared/DOC.md"), StandardCharsets.UTF_8));
+        if (!Bench.hasDocument()) {
+            System.out.println("the document is not at hand");
+            return;
+        }
+        String document = Bench.document();
         boolean[] quoted = new boolean[document.length()];
         Set<String> promises = new TreeSet<>();
         try (DirectoryStream<Path> tests = Files.newDirectoryStream(Path.of("src/test/java"), "*EdgeTest.java")) {
@@ -54,9 +58,5 @@ public final class SentenceTest {
             }
             promises.add(quotes.group(1));
         }
-    }
-
-    private static String flat(String text) {
-        return text.replaceAll("\\s+", " ");
     }
 }
