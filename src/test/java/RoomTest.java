@@ -38,6 +38,13 @@ public final class RoomTest {
         Bench.finish();
     }
 
+    /** How many fields and elements an object has, with all that it holds. */
+    static long cellsOf(Object object) throws IllegalAccessException {
+        cells = 0;
+        walk(object, new IdentityHashMap<>());
+        return cells;
+    }
+
     private static final int[][] RIGHT = words("class A { field a int; field b ref; static s int; virtual v(int) int { load 1; ret; } "
         + "method f(int) int { push 9; ints; store 1; x: new A; load 0; virt A v; pop; load 0; sink 1; inc 0 1; goto x; } }");
     private static final int[][] FAULTY = words("class A { method f() none { add; } } class B { field x int; }");
