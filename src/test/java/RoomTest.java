@@ -27,12 +27,11 @@ public final class RoomTest {
             work(house);
         }
         com.sun.management.ThreadMXBean beans = (com.sun.management.ThreadMXBean) java.lang.management.ManagementFactory.getThreadMXBean();
-        long id = Thread.currentThread().getId();
-        long start = beans.getThreadAllocatedBytes(id);
+        long start = beans.getCurrentThreadAllocatedBytes();
         for (int i = 0; i < 100; i++) {
             work(house);
         }
-        long made = beans.getThreadAllocatedBytes(id) - start;
+        long made = beans.getCurrentThreadAllocatedBytes() - start;
         // The asking itself makes a little; a single int array of a hundred in each of the calls would be 40,000 bytes.
         Bench.due("calls make nothing (" + made + " bytes)", made < 4000, true);
         Bench.finish();
